@@ -1,0 +1,340 @@
+import java.util.ArrayList;
+import java.util.List;
+import java.util.Random;
+
+/** Long runs of made-up calls, the same each time, answered by RulePlate and by PlainPlate alike. */
+public final class PlainCompareTest {
+    private static final int RUNS = 260;
+    private static final int CALLS = 500;
+
+    private final Random random;
+    private final int style;
+    private final RulePlate plate = new RulePlate();
+    private final PlainPlate plain = new PlainPlate();
+    private final List<String> calls = new ArrayList<>();
+    private int wrong = 0;
+
+    private PlainCompareTest(int seed) {
+        random = new Random(seed);
+        style = seed % 4;
+    }
+
+    public static void main(String[] args) {
+        int wrong = 0;
+        for (int seed = 0; seed < RUNS && wrong == 0; seed++) {
+            PlainCompareTest run = new PlainCompareTest(seed);
+            run.play();
+            if (run.wrong != 0) {
+                wrong++;
+                System.out.println("seed " + seed + ":");
+                for (String call : run.calls) {
+                    System.out.println("  " + call);
+                }
+            }
+        }
+        System.out.println(wrong == 0 ? "both agree" : "they do not agree");
+        if (wrong != 0) {
+            System.exit(1);
+        }
+    }
+
+    private void play() {
+        for (int i = 0; i < CALLS && wrong == 0; i++) {
+            int what = random.nextInt(100);
+            if (i < 30 || what < 12) {
+                draw();
+            } else if (what < 20) {
+                tell();
+            } else if (what < 28) {
+                look();
+            } else if (what < 45) {
+                askLayers();
+            } else if (what < 65) {
+                askFaults();
+            } else if (what < 90) {
+                askCircuit();
+            } else {
+                askRow();
+            }
+        }
+    }
+
+    private void same(String call, int got, int want) {
+        calls.add(call + " = " + got);
+        if (got != want) {
+            wrong++;
+            calls.add("due was " + want);
+        }
+    }
+
+    /** Mostly within 0 .. end - 1, now and then just beyond, seldom far beyond. */
+    private int upTo(int end) {
+        int dice = random.nextInt(150);
+        if (dice == 0) {
+            return end;
+        }
+        if (dice == 1) {
+            return -1;
+        }
+        if (dice == 2) {
+            return random.nextBoolean() ? Integer.MAX_VALUE : Integer.MIN_VALUE;
+        }
+        return end <= 0 ? 0 : random.nextInt(end);
+    }
+
+    private int layer() {
+        return random.nextInt(10) < 7 ? upTo(4) : upTo(16);
+    }
+
+    /** In style 0 things are drawn in a corner, so that much meets. */
+    private int square() {
+        if (style == 0 && random.nextInt(20) > 0) {
+            return 64 * upTo(12) + upTo(12);
+        }
+        return upTo(4096);
+    }
+
+    private int length() {
+        return random.nextInt(4) > 0 ? 1 + random.nextInt(9) : upTo(66);
+    }
+
+    private void draw() {
+        int cell = random.nextInt(3) > 0 ? upTo(3) : upTo(8);
+        int layer = random.nextInt(8) > 0 ? upTo(3) : upTo(8);
+        int square = square();
+        boolean flag = random.nextBoolean();
+        switch (random.nextInt(12)) {
+            case 0: case 1: case 2: {
+                int size = 100 * length() + length();
+                boolean hole = random.nextInt(4) == 0;
+                same("box(" + cell + ", " + layer + ", " + square + ", " + size + ", " + hole + ")",
+                    plate.box(cell, layer, square, size, hole), plain.box(cell, layer, square, size, hole));
+                break;
+            }
+            case 3: case 4: case 5: {
+                int to = flag ? square / 64 * 64 + upTo(64) : 64 * upTo(64) + square % 64;
+                if (style == 0) {
+                    to = flag ? square / 64 * 64 + upTo(14) : 64 * upTo(14) + square % 64;
+                }
+                to = random.nextInt(40) == 0 ? upTo(4096) : to;
+                int thick = random.nextInt(3) > 0 ? 1 : upTo(11);
+                same("path(" + cell + ", " + layer + ", " + square + ", " + to + ", " + thick + ")",
+                    plate.path(cell, layer, square, to, thick), plain.path(cell, layer, square, to, thick));
+                break;
+            }
+            case 6: {
+                int name = upTo(1000);
+                int any = layer();
+                same("text(" + cell + ", " + any + ", " + square + ", " + name + ")",
+                    plate.text(cell, any, square, name), plain.text(cell, any, square, name));
+                break;
+            }
+            case 7: case 8: {
+                int other = random.nextInt(5) > 0 ? upTo(cell) : upTo(8);
+                int turned = upTo(4);
+                same("put(" + cell + ", " + other + ", " + square + ", " + turned + ", " + flag + ")",
+                    plate.put(cell, other, square, turned, flag), plain.put(cell, other, square, turned, flag));
+                break;
+            }
+            case 9: {
+                int shape = upTo(16);
+                int across = told();
+                int down = told();
+                same("times(" + cell + ", " + shape + ", " + across + ", " + down + ")",
+                    plate.times(cell, shape, across, down), plain.times(cell, shape, across, down));
+                break;
+            }
+            case 10:
+                same("undo(" + cell + ")", plate.undo(cell), plain.undo(cell));
+                break;
+            default: {
+                int shape = upTo(6);
+                int what = upTo(3);
+                same("shape(" + cell + ", " + shape + ", " + what + ")",
+                    plate.shape(cell, shape, what), plain.shape(cell, shape, what));
+                break;
+            }
+        }
+    }
+
+    private int told() {
+        return random.nextInt(10) == 0 ? random.nextInt(1400) - 200
+            : 200 * (1 + random.nextInt(4)) + random.nextInt(31) - 15 + 100;
+    }
+
+    private void tell() {
+        int a = layer();
+        int b = layer();
+        switch (random.nextInt(5)) {
+            case 0: case 1: {
+                int k = 8 + upTo(8);
+                int op = upTo(6);
+                int n = random.nextInt(3) == 0 ? upTo(10) : b;
+                same("made(" + k + ", " + op + ", " + a + ", " + n + ")",
+                    plate.made(k, op, a, n), plain.made(k, op, a, n));
+                break;
+            }
+            case 2: {
+                int kind = upTo(5);
+                int n = random.nextInt(3) == 0 ? upTo(4097) : upTo(10);
+                same("rule(" + kind + ", " + a + ", " + b + ", " + n + ")",
+                    plate.rule(kind, a, b, n), plain.rule(kind, a, b, n));
+                break;
+            }
+            case 3: {
+                boolean is = random.nextInt(4) > 0;
+                same("conducts(" + a + ", " + is + ")", plate.conducts(a, is), plain.conducts(a, is));
+                break;
+            }
+            default: {
+                int v = layer();
+                if (random.nextInt(3) == 0) {
+                    same("joint(" + a + ", " + v + ", " + b + ")", plate.joint(a, v, b), plain.joint(a, v, b));
+                } else {
+                    same("gates(" + a + ", " + v + ", " + b + ")", plate.gates(a, v, b), plain.gates(a, v, b));
+                }
+                break;
+            }
+        }
+    }
+
+    private void look() {
+        switch (random.nextInt(4)) {
+            case 0: {
+                int cell = random.nextInt(3) > 0 ? upTo(4) : upTo(8);
+                same("flat(" + cell + ")", plate.flat(cell), plain.flat(cell));
+                break;
+            }
+            case 1:
+                same("run()", plate.run(), plain.run());
+                break;
+            case 2:
+                same("circuit()", plate.circuit(), plain.circuit());
+                break;
+            default:
+                wishAsFound();
+                break;
+        }
+    }
+
+    /** What was found is wished, with other nets and mostly in another order, so that it can be paired. */
+    private void wishAsFound() {
+        same("unwish()", plate.unwish(), plain.unwish());
+        int many = plain.device(-1, 0);
+        same("device(-1, 0)", plate.device(-1, 0), many);
+        int by = random.nextInt(24);
+        int start = many > 0 ? random.nextInt(many) : 0;
+        for (int i = 0; i < Math.min(many, 13); i++) {
+            int device = (start + i) % many;
+            int[] nets = new int[3];
+            for (int k = 0; k < 3; k++) {
+                int net = plain.device(device, 1 + k);
+                same("device(" + device + ", " + (1 + k) + ")", plate.device(device, 1 + k), net);
+                nets[k] = Math.floorMod(net + by, 24);
+            }
+            boolean swap = random.nextBoolean();
+            int told = 576 * nets[0] + 24 * nets[swap ? 2 : 1] + nets[swap ? 1 : 2];
+            int size = random.nextInt(12) == 0 ? upTo(4097) : random.nextBoolean() ? 0 : plain.device(device, 0);
+            if (size != 0) {
+                plate.device(device, 0);
+            }
+            same("wish(" + told + ", " + size + ")", plate.wish(told, size), plain.wish(told, size));
+        }
+        same("same()", plate.same(), plain.same());
+        same("tries()", plate.tries(), plain.tries());
+        for (int i = 0; i < 6; i++) {
+            boolean net = random.nextBoolean();
+            same("pair(" + i + ", " + net + ")", plate.pair(i, net), plain.pair(i, net));
+        }
+    }
+
+    private void askLayers() {
+        int layer = layer();
+        int square = square();
+        int i = random.nextInt(3) == 0 ? -1 : upTo(12);
+        switch (random.nextInt(3)) {
+            case 0:
+                same("area(" + layer + ")", plate.area(layer), plain.area(layer));
+                break;
+            case 1:
+                same("covered(" + layer + ", " + square + ")",
+                    plate.covered(layer, square), plain.covered(layer, square));
+                break;
+            default:
+                same("pieces(" + layer + ", " + i + ")", plate.pieces(layer, i), plain.pieces(layer, i));
+                break;
+        }
+    }
+
+    private void askFaults() {
+        int i = random.nextBoolean() ? upTo(20) : upTo(620);
+        int what = upTo(4);
+        if (random.nextInt(3) > 0) {
+            same("fault(" + i + ", " + what + ")", plate.fault(i, what), plain.fault(i, what));
+        } else {
+            int rule = upTo(8);
+            what = upTo(2);
+            same("faults(" + rule + ", " + what + ")", plate.faults(rule, what), plain.faults(rule, what));
+        }
+    }
+
+    private void askCircuit() {
+        int i = random.nextInt(4) == 0 ? -1 : upTo(8);
+        int what = upTo(4);
+        int layer = layer();
+        int square = square();
+        boolean net = random.nextBoolean();
+        switch (random.nextInt(8)) {
+            case 0: case 1:
+                same("net(" + layer + ", " + square + ")", plate.net(layer, square), plain.net(layer, square));
+                break;
+            case 2: {
+                int number = upTo(3);
+                same("name(" + i + ", " + number + ")", plate.name(i, number), plain.name(i, number));
+                break;
+            }
+            case 3: case 4:
+                same("device(" + i + ", " + what + ")", plate.device(i, what), plain.device(i, what));
+                break;
+            case 5: {
+                int told = upTo(13824);
+                int size = random.nextBoolean() ? 0 : upTo(4097);
+                same("wish(" + told + ", " + size + ")", plate.wish(told, size), plain.wish(told, size));
+                break;
+            }
+            case 6:
+                same("same()", plate.same(), plain.same());
+                same("tries()", plate.tries(), plain.tries());
+                break;
+            default:
+                same("pair(" + i + ", " + net + ")", plate.pair(i, net), plain.pair(i, net));
+                break;
+        }
+    }
+
+    private void askRow() {
+        int i = upTo(64);
+        int j = upTo(64);
+        int n = random.nextInt(4) == 0 ? upTo(66) : upTo(20);
+        int layer = layer();
+        switch (random.nextInt(10)) {
+            case 0:
+                same("tear()", plate.tear(), plain.tear());
+                break;
+            case 1: case 2:
+                same("lay(" + layer + ", " + i + ")", plate.lay(layer, i), plain.lay(layer, i));
+                break;
+            case 3: case 4:
+                same("copy(" + i + ", " + j + ", " + n + ")", plate.copy(i, j, n), plain.copy(i, j, n));
+                break;
+            case 5: {
+                int by = -1 - upTo(10);
+                same("status(" + by + ")", plate.status(by), plain.status(by));
+                break;
+            }
+            default:
+                same("row(" + i + ")", plate.row(i), plain.row(i));
+                break;
+        }
+    }
+}
