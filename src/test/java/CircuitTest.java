@@ -11,6 +11,7 @@ public final class CircuitTest {
         nets();
         names();
         namesByPuts();
+        namesTurned();
         devices();
         ends();
         due.end();
@@ -214,6 +215,26 @@ public final class CircuitTest {
         due.is("no more than 200", p.name(0, 200), RulePlate.NONE);
     }
 
+    /** Each text names the square that its own square comes to. */
+    private static void namesTurned() {
+        due.promise(23);
+        for (int turned = 0; turned < 8; turned++) {
+            RulePlate p = new RulePlate();
+            p.text(0, 0, square(2, 1), 40);
+            p.text(0, 0, square(5, 9), 41);
+            p.path(0, 0, square(2, 1), square(2, 1), 1);
+            p.path(0, 0, square(5, 9), square(5, 9), 1);
+            p.put(1, 0, square(30, 30), turned % 4, turned >= 4);
+            p.conducts(0, true);
+            p.flat(1);
+            due.is("turned " + turned, p.circuit(), 2);
+            int first = p.name(0, 0);
+            due.is("turned " + turned, first == 40 || first == 41);
+            due.is("turned " + turned, p.name(1, 0), 81 - first);
+            due.is("turned " + turned, p.name(0, 1), RulePlate.NONE);
+        }
+    }
+
     private static void devices() {
         due.promise(24);
         RulePlate p = new RulePlate();
@@ -255,6 +276,9 @@ public final class CircuitTest {
         // a device in the corner with an end below alone
         p.box(0, 0, 0, 202, false);
         p.box(0, 2, square(0, 2), 101, false);
+        // and one in the first row with an end on the right alone
+        p.box(0, 0, 40, 101, false);
+        p.box(0, 2, 41, 101, false);
         // one with four ends, of which the two above and on the left are the least
         p.box(0, 0, square(20, 20), 101, false);
         p.box(0, 2, square(20, 21), 101, false);
@@ -268,13 +292,15 @@ public final class CircuitTest {
         p.conducts(2, true);
         p.gates(0, 0, 2);
         p.flat(0);
-        due.is("circuit", p.circuit(), 7);
-        due.is("devices", p.device(-1, 0), 3);
-        due.is("below", p.device(0, 2), 0);
+        due.is("circuit", p.circuit(), 8);
+        due.is("devices", p.device(-1, 0), 4);
+        due.is("below", p.device(0, 2), 1);
         due.is("no other end", p.device(0, 3), RulePlate.NONE);
-        due.is("above", p.device(1, 2), 1);
-        due.is("left", p.device(1, 3), 2);
-        due.is("its own square", p.device(2, 2), 6);
-        due.is("not the corner", p.device(2, 3), RulePlate.NONE);
+        due.is("right", p.device(1, 2), 0);
+        due.is("no other end", p.device(1, 3), RulePlate.NONE);
+        due.is("above", p.device(2, 2), 2);
+        due.is("left", p.device(2, 3), 3);
+        due.is("its own square", p.device(3, 2), 7);
+        due.is("not the corner", p.device(3, 3), RulePlate.NONE);
     }
 }

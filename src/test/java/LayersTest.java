@@ -37,6 +37,7 @@ public final class LayersTest {
         due.is("GROWN", p.area(11), 63 + 25 + 25 - 12 - 4);
         due.is("GROWN, a corner", p.covered(11, square(8, 8)), 1);
         due.is("GROWN, beyond", p.covered(11, square(7, 8)), 0);
+        due.is("SHRUNK", p.area(12), 15 + 1 + 1);
         due.is("TOUCHED", p.area(13), 15);
         due.is("TOUCHED, not the others", p.covered(13, square(20, 10)), 0);
         due.is("of what is not told", p.area(15), 4);
@@ -48,6 +49,45 @@ public final class LayersTest {
         due.is("SHRUNK of none", p.area(15), 0);
         due.is("LESS none", p.area(8), 17);
         edges();
+        uneven();
+        touched();
+    }
+
+    /** What lacks one square is shrunk on that side alone. */
+    private static void uneven() {
+        int[][] lacks = {{20, 15}, {20, 24}, {15, 20}, {24, 20}};
+        int[][] gone = {{20, 17}, {20, 22}, {17, 20}, {22, 20}};
+        for (int i = 0; i < 4; i++) {
+            RulePlate p = new RulePlate();
+            p.box(0, 0, square(15, 15), 1010, false);
+            p.box(0, 0, square(lacks[i][0], lacks[i][1]), 101, true);
+            p.made(8, 4, 0, 2);
+            p.flat(0);
+            due.is("SHRUNK, uneven " + i, p.area(8), 36 - 5);
+            due.is("SHRUNK, gone " + i, p.covered(8, square(gone[i][0], gone[i][1])), 0);
+        }
+    }
+
+    /** Pieces side by side in the first rows, some of them touched. */
+    private static void touched() {
+        RulePlate p = new RulePlate();
+        for (int i = 0; i < 6; i++) {
+            p.box(0, 0, square(10 * i, 0), 402, false);
+        }
+        p.box(0, 1, square(13, 0), 101, false);
+        p.box(0, 1, square(18, 0), 301, false);
+        p.box(0, 1, square(43, 1), 1001, false);
+        p.made(8, 5, 0, 1);
+        p.made(9, 5, 1, 0);
+        p.flat(0);
+        due.is("TOUCHED", p.area(8), 4 * 8);
+        due.is("TOUCHED, how many", p.pieces(8, -1), 4);
+        due.is("TOUCHED, not the first", p.covered(8, square(0, 0)), 0);
+        due.is("TOUCHED, the second", p.covered(8, square(10, 0)), 1);
+        due.is("TOUCHED, the third", p.covered(8, square(23, 1)), 1);
+        due.is("TOUCHED, not the fourth", p.covered(8, square(30, 0)), 0);
+        due.is("TOUCHED, the last", p.covered(8, square(53, 0)), 1);
+        due.is("TOUCHED, the other way", p.area(9), 14);
     }
 
     private static void edges() {

@@ -116,6 +116,7 @@ public final class RulesTest {
 
     private static void inside() {
         due.promise(15);
+        insideLast();
         RulePlate p = new RulePlate();
         p.box(0, 0, square(10, 10), 201, false);
         p.box(0, 1, square(8, 8), 505, false);
@@ -135,6 +136,22 @@ public final class RulesTest {
         fault(p, 2, 2, square(11, 10), square(13, 8), 2);
         fault(p, 3, 3, 4095, 4095, 1);
         fault(p, 4, 5, 4095, 4095, 0);
+    }
+
+    /** What is lacking is only below, and on the right; or at the border. */
+    private static void insideLast() {
+        RulePlate p = new RulePlate();
+        p.box(0, 0, square(30, 30), 101, false);
+        p.box(0, 0, square(62, 61), 101, false);
+        p.box(0, 1, square(20, 20), 4444, false);
+        p.box(0, 1, square(32, 32), 101, true);
+        p.box(0, 1, square(63, 63), 101, true);
+        p.rule(2, 0, 1, 1);
+        p.rule(2, 0, 1, 2);
+        p.flat(0);
+        due.is("run", p.run(), 2);
+        fault(p, 0, 1, square(30, 30), square(32, 32), 2);
+        fault(p, 1, 1, square(62, 61), square(63, 63), 2);
     }
 
     private static void areas() {
@@ -188,6 +205,18 @@ public final class RulesTest {
         due.is("told or not", p.faults(1, 1), 1);
     }
 
+    /** The least is neither the first nor the last. */
+    private static void leasts() {
+        RulePlate p = new RulePlate();
+        p.box(0, 0, square(0, 0), 302, false);
+        p.box(0, 0, square(10, 4), 201, false);
+        p.box(0, 0, square(20, 8), 403, false);
+        p.rule(3, 0, 0, 99);
+        p.flat(0);
+        p.run();
+        due.is("least", p.faults(0, 1), 2);
+    }
+
     private static void asked() {
         due.promise(16);
         RulePlate p = new RulePlate();
@@ -218,6 +247,9 @@ public final class RulesTest {
         due.is("what -1", p.faults(0, -1), RulePlate.NO);
         due.is("rule 2", p.faults(2, 9), RulePlate.BEYOND);
         due.is("rule -1", p.faults(-1, 0), RulePlate.BEYOND);
+        p.run();
+        due.is("once more", p.faults(0, 0), 7);
+        leasts();
         p.flat(0);
         due.is("no run of this drawing", p.faults(0, 9), RulePlate.MISSING);
         due.is("rule, ahead of missing", p.faults(2, 0), RulePlate.BEYOND);

@@ -190,6 +190,17 @@ public final class ShapesTest {
         due.is("what fell off in cell 1 does not come back", p.flat(2), 0);
         p.put(3, 1, square(0, 0), 2, false);
         due.is("all falls off", p.flat(3), 0);
+        p.put(5, 0, square(0, 20), 0, true);
+        due.is("mirrored, it is all left of the plate", p.flat(5), 0);
+        p.undo(5);
+        p.put(5, 0, square(0, 20), 1, false);
+        due.is("turned once, it is all left of the plate", p.flat(5), 0);
+        p.undo(5);
+        p.put(5, 0, square(20, 0), 3, false);
+        due.is("turned three times, it is all above the plate", p.flat(5), 0);
+        p.undo(5);
+        p.put(5, 0, square(20, 1), 3, false);
+        due.is("one row comes", p.flat(5), 4);
         p.put(4, 1, square(63, 63), 2, false);
         due.is("turned back into the plate", p.flat(4), 4);
         due.is("there", p.covered(0, square(0, 62)), 1);
@@ -214,6 +225,11 @@ public final class ShapesTest {
         due.is("no more down", p.covered(0, square(10, 6)), 0);
         due.is("farthest", p.times(1, 0, 200 * 4 + 63 + 100, 200 * 1 - 63 + 100), 1);
         due.is("flat, most fell off", p.flat(1), 1);
+        p.put(2, 0, square(1, 1), 0, false);
+        due.is("to just beyond", p.times(2, 0, 200 * 2 + 63 + 100, 200 * 2 + 63 + 100), 1);
+        due.is("flat, only the first stays", p.flat(2), 1);
+        due.is("by whole rows", p.times(2, 0, 200 * 2 + 62 + 100, 200 * 2 + 62 + 100), 1);
+        due.is("flat, all stay", p.flat(2), 4);
         due.is("on one place", p.times(1, 0, 900, 900), 1);
         due.is("flat, one place", p.flat(1), 1);
         for (int wrong : new int[] {0, 100, 199, 200, 236, 364, 436, 564, 836, 964, 1100, -300, -100,
