@@ -46,6 +46,14 @@ public final class CircuitTest {
         }
         due.is("full", p.joint(0, 1, 2), RulePlate.FULL);
         due.is("full, beyond", p.joint(0, 16, 2), RulePlate.BEYOND);
+        p.box(0, 0, 0, 101, false);
+        p.box(0, 7, 0, 101, false);
+        p.made(8, 0, 0, 7);
+        p.made(15, 1, 0, 0);
+        p.conducts(0, true);
+        p.conducts(15, true);
+        p.flat(0);
+        due.is("the last ones hold", p.circuit(), 1);
     }
 
     private static void gatesTold() {

@@ -4,7 +4,7 @@ import java.util.Random;
 
 /** Long runs of made-up calls, the same each time, answered by RulePlate and by PlainPlate alike. */
 public final class PlainCompareTest {
-    private static final int RUNS = 260;
+    private static final int RUNS = 400;
     private static final int CALLS = 500;
 
     private final Random random;
@@ -39,7 +39,10 @@ public final class PlainCompareTest {
     }
 
     private void play() {
-        for (int i = 0; i < CALLS && wrong == 0; i++) {
+        if (style >= 2) {
+            wire();
+        }
+        for (int i = calls.size(); i < CALLS && wrong == 0; i++) {
             int what = random.nextInt(100);
             if (i < 30 || what < 12) {
                 draw();
@@ -57,6 +60,40 @@ public final class PlainCompareTest {
                 askRow();
             }
         }
+    }
+
+    /** Wires in rows on layer 1 are crossed by wires in columns on layer 2, so that there are devices. */
+    private void wire() {
+        int across = 1 + random.nextInt(4);
+        int down = 1 + random.nextInt(4);
+        for (int i = 0; i < across + down; i++) {
+            boolean row = i < across;
+            int at = 2 * random.nextInt(10);
+            int from = random.nextInt(12);
+            int to = from + 1 + random.nextInt(14);
+            int first = row ? 64 * at + from : 64 * from + at;
+            int last = row ? 64 * at + to : 64 * to + at;
+            int layer = row ? 1 : 2;
+            int thick = random.nextInt(5) == 0 ? 2 : 1;
+            same("path(0, " + layer + ", " + first + ", " + last + ", " + thick + ")",
+                plate.path(0, layer, first, last, thick), plain.path(0, layer, first, last, thick));
+            int name = 1 + random.nextInt(999);
+            int named = row ? 8 : 2;
+            same("text(0, " + named + ", " + first + ", " + name + ")",
+                plate.text(0, named, first, name), plain.text(0, named, first, name));
+        }
+        same("made(8, 2, 1, 2)", plate.made(8, 2, 1, 2), plain.made(8, 2, 1, 2));
+        same("conducts(8, true)", plate.conducts(8, true), plain.conducts(8, true));
+        same("conducts(2, true)", plate.conducts(2, true), plain.conducts(2, true));
+        same("gates(2, 1, 8)", plate.gates(2, 1, 8), plain.gates(2, 1, 8));
+        same("flat(0)", plate.flat(0), plain.flat(0));
+        same("circuit()", plate.circuit(), plain.circuit());
+        for (int net = 0; net < 12; net++) {
+            same("name(" + net + ", 0)", plate.name(net, 0), plain.name(net, 0));
+            same("name(" + net + ", 1)", plate.name(net, 1), plain.name(net, 1));
+        }
+        wishAsFound();
+        wishAsFound();
     }
 
     private void same(String call, int got, int want) {
@@ -83,13 +120,16 @@ public final class PlainCompareTest {
     }
 
     private int layer() {
+        if (style >= 2 && random.nextInt(3) == 0) {
+            return random.nextBoolean() ? 8 : 2;
+        }
         return random.nextInt(10) < 7 ? upTo(4) : upTo(16);
     }
 
-    /** In style 0 things are drawn in a corner, so that much meets. */
+    /** But in style 1 things are drawn in a corner, so that much meets. */
     private int square() {
-        if (style == 0 && random.nextInt(20) > 0) {
-            return 64 * upTo(12) + upTo(12);
+        if (style != 1 && random.nextInt(20) > 0) {
+            return style == 0 ? 64 * upTo(12) + upTo(12) : 64 * upTo(24) + upTo(24);
         }
         return upTo(4096);
     }
@@ -203,6 +243,10 @@ public final class PlainCompareTest {
             case 0: {
                 int cell = random.nextInt(3) > 0 ? upTo(4) : upTo(8);
                 same("flat(" + cell + ")", plate.flat(cell), plain.flat(cell));
+                if (random.nextInt(4) > 0) {
+                    same("run()", plate.run(), plain.run());
+                    same("circuit()", plate.circuit(), plain.circuit());
+                }
                 break;
             }
             case 1:

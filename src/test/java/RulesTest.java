@@ -62,6 +62,11 @@ public final class RulesTest {
         due.is("the drawing is as it was", p.run(), 2);
         p.flat(0);
         due.is("now", p.run(), 4);
+        for (int i = 1; i < 16; i++) {
+            p.rule(3, 0, 0, 2);
+        }
+        due.is("16 rules", p.run(), 4 + 15 * 2);
+        due.is("the last", p.faults(15, 0), 2);
     }
 
     private static void wide() {
@@ -152,6 +157,13 @@ public final class RulesTest {
         due.is("run", p.run(), 2);
         fault(p, 0, 1, square(30, 30), square(32, 32), 2);
         fault(p, 1, 1, square(62, 61), square(63, 63), 2);
+        RulePlate q = new RulePlate();
+        q.box(0, 0, square(30, 0), 101, false);
+        q.box(0, 1, square(28, 0), 503, false);
+        q.rule(2, 0, 1, 2);
+        q.flat(0);
+        due.is("only some beyond are not", q.run(), 1);
+        fault(q, 0, 0, 30, 30, 2);
     }
 
     private static void areas() {
