@@ -1,16 +1,27 @@
-/** Counts answers that are not as due, told with the promise that they break. */
+import java.io.IOException;
+import java.nio.file.Files;
+import java.nio.file.Path;
+
+/** Counts answers that are not as due, told with the promise or the sentence that they break. */
 final class Due {
     private int wrong = 0;
-    private int promise = 0;
+    private String ground = "";
+    private String document = "";
 
     void promise(int number) {
-        promise = number;
+        ground = "promise " + number;
+    }
+
+    /** The document's sentence that comes to be tested: it has to stand there, word by word. */
+    void sentence(String words) {
+        ground = "\"" + words + "\"";
+        is("the document has these words", document().contains(squeezed(words)));
     }
 
     void is(String call, int got, int want) {
         if (got != want) {
             wrong++;
-            System.out.println("promise " + promise + ": " + call + " answered " + got + ", due is " + want);
+            System.out.println(ground + ": " + call + " answered " + got + ", due is " + want);
         }
     }
 
@@ -23,5 +34,20 @@ final class Due {
             System.out.println(wrong + " answers are not as due");
             System.exit(1);
         }
+    }
+
+    private String document() {
+        if (document.isEmpty()) {
+            try {
+                document = squeezed(Files.readString(Path.of("../shared/DOC.md")));
+            } catch (IOException e) {
+                is("../shared/DOC.md can be read", false);
+            }
+        }
+        return document;
+    }
+
+    private static String squeezed(String words) {
+        return words.replaceAll("\\s+", " ");
     }
 }
