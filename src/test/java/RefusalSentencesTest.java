@@ -7,6 +7,9 @@ public final class RefusalSentencesTest {
     private static final Due due = new Due();
     private static final int MIN = Integer.MIN_VALUE;
     private static final int MAX = Integer.MAX_VALUE;
+    private static final String FIRST = "REFUSALS, of several the first as each line has them: BEYOND a number beyond,"
+        + " MISSING nothing there yet, KIND a SHAPE of another kind, BELOW a count below 0, COPY, NO not as told,"
+        + " FULL no room, SPENT.";
 
     public static void main(String[] args) {
         firstOfShapes();
@@ -25,8 +28,6 @@ public final class RefusalSentencesTest {
     private static int square(int x, int y) {
         return Tell.square(x, y);
     }
-
-    private static final String FIRST = "REFUSALS, of several the first as each line has them";
 
     /** Each reason together with those behind it; cell 1 is full, its shape 0 is a put, 15 is a text. */
     private static void firstOfShapes() {

@@ -19,6 +19,7 @@ public final class ShapeSentencesTest {
         pathTurnedBack();
         namesOfTexts();
         lesserCells();
+        putRefused();
         turnedBy();
         timesAtFirst();
         timesTold();
@@ -238,6 +239,11 @@ public final class ShapeSentencesTest {
         }
         due.is("a row's last to the next one's first", p.path(0, 0, 63, 64, 1), Tell.NO);
         due.is("from corner to corner", p.path(0, 0, 0, 4095, 1), Tell.NO);
+        thickRefused(p);
+    }
+
+    private static void thickRefused(RulePlate p) {
+        due.sentence("THICK (1 .. 9)");
         for (int thick : new int[] {Integer.MIN_VALUE, -1, 0, 10, Integer.MAX_VALUE}) {
             due.is("thick " + thick, p.path(0, 0, 0, 63, thick), Tell.NO);
             due.is("thick " + thick + ", one square", p.path(0, 0, 0, 0, thick), Tell.NO);
@@ -294,6 +300,24 @@ public final class ShapeSentencesTest {
             due.is("put MIN", p.put(cell, Integer.MIN_VALUE, 0, 0, false), Tell.BEYOND);
             due.is("put MAX", p.put(cell, Integer.MAX_VALUE, 0, 0, false), Tell.BEYOND);
         }
+    }
+
+    private static void putRefused() {
+        due.sentence("A PUT: its number. BEYOND (CELL; other: not a lesser one; SQUARE), NO: TURNED; FULL.");
+        RulePlate p = new RulePlate();
+        int[] far = {Integer.MIN_VALUE, -1, 8, Integer.MAX_VALUE};
+        for (int cell : far) {
+            due.is("cell " + cell, p.put(cell, 0, 0, 0, false), Tell.BEYOND);
+        }
+        due.is("the same cell", p.put(7, 7, 0, 0, false), Tell.BEYOND);
+        due.is("a greater one", p.put(6, 7, 0, 0, false), Tell.BEYOND);
+        due.is("square -1", p.put(7, 6, -1, 0, false), Tell.BEYOND);
+        due.is("square 4096", p.put(7, 6, 4096, 0, false), Tell.BEYOND);
+        for (int i = 0; i < 16; i++) {
+            due.is("put " + i, p.put(7, i % 7, 4095 * (i % 2), i % 4, i > 7), i);
+        }
+        due.is("one more", p.put(7, 0, 0, 0, false), Tell.FULL);
+        due.is("one more, turned by 4", p.put(7, 0, 0, 4, false), Tell.NO);
     }
 
     private static void turnedBy() {
