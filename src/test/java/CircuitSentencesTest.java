@@ -62,20 +62,26 @@ public final class CircuitSentencesTest {
     private static void jointsAtMost() {
         due.sentence("JOINTS (8 at most): LAYERS a, v, b");
         RulePlate p = new RulePlate();
-        for (int layer = 0; layer < 8; layer++) {
-            p.box(0, layer, 0, size(1, 1), false);
-            p.conducts(layer, true);
+        // 7 is a row; each of 0 .. 6 is a square in it, and 8 .. 14 are these, grown; 15 is the last, too
+        p.path(0, 7, square(0, 30), square(63, 30), 1);
+        for (int i = 0; i < 7; i++) {
+            Tell.dot(p, 0, i, 8 * i, 30);
+            p.made(8 + i, 3, i, 1);
+            p.conducts(8 + i, true);
         }
-        p.made(8, 1, 0, 0);
-        p.conducts(8, true);
+        p.made(15, 3, 6, 2);
+        p.conducts(15, true);
+        p.conducts(7, true);
         p.flat(0);
-        for (int i = 1; i <= 8; i++) {
-            due.is("nets with " + (i - 1), p.circuit(), 10 - i);
-            due.is("joint " + i, p.joint(i - 1, i - 1, i), i);
+        for (int i = 0; i < 8; i++) {
+            due.is("nets with " + i, p.circuit(), 9 - i);
+            due.is("joint " + i, p.joint(i == 7 ? 15 : 7, Math.min(i, 6), i == 7 ? 7 : 8 + i), i + 1);
+            p.circuit();
+            due.is("what is joined", p.net(8 + i, square(8 * Math.min(i, 6), 30)), 0);
         }
         due.is("nets with 8", p.circuit(), 1);
         due.is("one more", p.joint(0, 0, 8), Tell.FULL);
-        due.is("the same once more", p.joint(0, 0, 1), Tell.FULL);
+        due.is("the same once more", p.joint(7, 0, 8), Tell.FULL);
     }
 
     private static void jointsAsked() {

@@ -21,7 +21,9 @@ public final class FlatSentencesTest {
         mixed();
         grown();
         shrunk();
+        layersApart();
         touched();
+        touchedInOneRow();
         madeOfNothing();
         piecesBeside();
         piecesNumbered();
@@ -505,6 +507,54 @@ public final class FlatSentencesTest {
             due.is("one row too few by " + n, p.area(10), n == 0 ? 2 : 0);
             due.is("in the corner by " + n, p.area(11), (19 - 2 * n) * (19 - 2 * n));
             due.is("not at the border", n == 0 ? 0 : p.covered(11, square(63, n)), 0);
+        }
+    }
+
+    /** What another layer has in its first or last rows is not beside the last or first rows of this one. */
+    private static void layersApart() {
+        due.sentence("(those beyond THE PLATE are none)");
+        for (int layer = 1; layer < 7; layer++) {
+            RulePlate p = new RulePlate();
+            p.box(0, layer, 0, size(64, 64), false);
+            p.box(0, layer - 1, square(0, 50), size(64, 14), false);
+            p.box(0, layer + 1, 0, size(64, 14), false);
+            p.box(1, layer - 1, 0, size(64, 64), false);
+            p.box(1, layer + 1, 0, size(64, 64), false);
+            for (int op = 3; op <= 4; op++) {
+                p.made(8, op, layer, 9);
+                p.made(9, op, 8, 9);
+                p.made(10, 1, 1, 1);
+                p.flat(0);
+                due.is("op " + op + " of a full layer", p.area(8), op == 3 ? 4096 : 46 * 46);
+                due.is("op " + op + " of that", p.area(9), op == 3 ? 4096 : 28 * 28);
+                p.flat(1);
+                due.is("op " + op + " of an empty layer between full ones", p.area(8), 0);
+            }
+        }
+    }
+
+    private static void touchedInOneRow() {
+        due.sentence("5 TOUCHED: those PIECES of a that have a SQUARE in b.");
+        for (int which = 0; which < 16; which++) {
+            for (int y = 0; y < 64; y += 63) {
+                RulePlate p = new RulePlate();
+                int many = 0;
+                for (int i = 0; i < 4; i++) {
+                    p.path(0, 0, square(20 * i, y), square(20 * i + 3, y), 1);
+                    if ((which >> i & 1) != 0) {
+                        p.path(0, 1, square(20 * i + i, y), square(20 * i + i, y), 1);
+                        many++;
+                    }
+                }
+                p.made(8, 5, 0, 1);
+                p.made(9, 5, 1, 0);
+                p.flat(0);
+                due.is("touched in row " + y, p.area(8), 4 * many);
+                due.is("touching in row " + y, p.area(9), many);
+                for (int i = 0; i < 4; i++) {
+                    due.is("piece " + i + " in row " + y, p.covered(8, square(20 * i + 3, y)), which >> i & 1);
+                }
+            }
         }
     }
 

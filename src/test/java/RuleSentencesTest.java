@@ -14,6 +14,7 @@ public final class RuleSentencesTest {
         linesEnd();
         inside();
         insideLeast();
+        insideLeastAtBorders();
         insideBorder();
         areaFewer();
         areaTold();
@@ -201,16 +202,16 @@ public final class RuleSentencesTest {
         int[][] ways = {{-1, -1}, {0, -1}, {1, -1}, {-1, 0}, {1, 0}, {-1, 1}, {0, 1}, {1, 1}};
         for (int n = 0; n <= 9; n++) {
             for (int[] by : ways) {
-                int x = 30 + n * by[0];
-                int y = 30 + n * by[1];
+                int x = 20 + n * by[0];
+                int y = 45 + n * by[1];
                 RulePlate p = new RulePlate();
-                Tell.dot(p, 0, 0, 30, 30);
+                Tell.dot(p, 0, 0, 20, 45);
                 p.box(0, 1, 0, size(64, 64), false);
                 p.box(0, 1, square(x, y), size(1, 1), true);
                 p.flat(0);
                 String what = n + " by " + by[0] + ", " + by[1];
                 due.is("it differs by " + what, found(p, 2, 0, 1, n), 1);
-                fault(p, 0, 0, square(30, 30), square(x, y), n);
+                fault(p, 0, 0, square(20, 45), square(x, y), n);
                 if (n > 0) {
                     due.is("n one less than " + what, found(p, 2, 0, 1, n - 1), 0);
                 }
@@ -238,6 +239,32 @@ public final class RuleSentencesTest {
         fault(p, 1, 1, square(30, 30), square(32, 28), 2);
         fault(p, 2, 2, square(30, 30), square(30, 30), 0);
         fault(p, 3, 3, square(30, 30), square(21, 21), 9);
+    }
+
+    /** What is not b's is in the first or the last row or column of the plate, or just too far away. */
+    private static void insideLeastAtBorders() {
+        due.sentence("the least SQUARE that is not b's");
+        int[][] lacks = {{20, 0}, {20, 63}, {0, 40}, {63, 40}, {0, 0}, {63, 63}};
+        for (int[] lack : lacks) {
+            for (int n = 1; n <= 9; n++) {
+                RulePlate p = new RulePlate();
+                int x = Math.min(63 - n, Math.max(n, lack[0]));
+                int y = Math.min(63 - n, Math.max(n, lack[1]));
+                Tell.dot(p, 0, 0, x, y);
+                p.box(0, 1, 0, size(64, 64), false);
+                p.box(0, 1, square(lack[0], lack[1]), size(1, 1), true);
+                // in the uppermost row around it, but just too far to the left or to the right
+                if (x > n) {
+                    p.box(0, 1, square(0, y - n), size(x - n, 1), true);
+                }
+                if (x + n < 63) {
+                    p.box(0, 1, square(x + n + 1, y - n), size(1, 1), true);
+                }
+                p.flat(0);
+                due.is("lacking " + lack[0] + ", " + lack[1] + ", n " + n, found(p, 2, 0, 1, n), 1);
+                fault(p, 0, 0, square(x, y), square(lack[0], lack[1]), n);
+            }
+        }
     }
 
     private static void insideBorder() {

@@ -419,14 +419,20 @@ public final class ShapeSentencesTest {
             + " BEYOND (CELL, SHAPE), NO.");
         RulePlate p = new RulePlate();
         p.put(7, 6, 4095, 0, false);
-        int[] want = {4, 6, 4095};
-        for (int what = 0; what < 3; what++) {
-            due.is("what = " + what, p.shape(7, 0, what), want[what]);
+        p.box(7, 7, 0, size(1, 1), false);
+        p.box(7, 0, 63, size(1, 1), true);
+        p.path(7, 5, 4095, 4032, 1);
+        p.text(7, 15, 64, 1);
+        int[][] want = {{4, 6, 4095}, {0, 7, 0}, {1, 0, 63}, {2, 5, 4095}, {3, 15, 64}};
+        for (int shape = 0; shape < 5; shape++) {
+            for (int what = 0; what < 3; what++) {
+                due.is("shape " + shape + ", what = " + what, p.shape(7, shape, what), want[shape][what]);
+            }
         }
         for (int what : new int[] {Integer.MIN_VALUE, -1, 3, Integer.MAX_VALUE}) {
             due.is("what = " + what, p.shape(7, 0, what), Tell.NO);
         }
-        for (int shape : new int[] {Integer.MIN_VALUE, -1, 1, 15, 16, Integer.MAX_VALUE}) {
+        for (int shape : new int[] {Integer.MIN_VALUE, -1, 5, 15, 16, Integer.MAX_VALUE}) {
             due.is("shape " + shape, p.shape(7, shape, 0), Tell.BEYOND);
         }
     }

@@ -11,6 +11,7 @@ public final class WishSentencesTest {
         gateWithGate();
         gateIsAnEnd();
         eitherWayRound();
+        inEachOrder();
         twelveDevices();
         triesEach();
         sizeUnlike();
@@ -205,6 +206,37 @@ public final class WishSentencesTest {
         }
     }
 
+    /** Three on one wire, wished in each order of things: what was bound by a try that failed is free again. */
+    private static void inEachOrder() {
+        due.sentence("each with things of THE WISH from 0 on that none has");
+        RulePlate p = new RulePlate();
+        p.path(0, 1, square(0, 5), square(20, 5), 1);
+        for (int i = 0; i < 3; i++) {
+            p.path(0, 2, square(4 + 4 * i, 3 + i), square(4 + 4 * i, 7), 1);
+        }
+        p.made(8, 2, 1, 2);
+        p.conducts(8, true);
+        p.conducts(2, true);
+        p.gates(2, 1, 8);
+        p.flat(0);
+        p.circuit();
+        int[][] things = {{10, 20, 21}, {11, 22, 21}, {12, 22, 23}};
+        int[][] orders = {{0, 1, 2}, {0, 2, 1}, {1, 0, 2}, {1, 2, 0}, {2, 0, 1}, {2, 1, 0}};
+        for (int[] order : orders) {
+            p.unwish();
+            for (int thing : order) {
+                p.wish(nets(things[thing][0], things[thing][1], things[thing][2]), 0);
+            }
+            due.is("same", p.same(), 1);
+            // the middle one is where it is; the others may be changed about
+            due.is("the middle one", order[p.pair(1, false)], 1);
+            due.is("its gate", p.pair(1, true), 11);
+            due.is("the first one comes first", order[p.pair(0, false)], order[0] == 1 ? order[1] : order[0]);
+            due.is("its gate", p.pair(0, true), 10 + order[p.pair(0, false)]);
+            due.is("its outer end", p.pair(3, true), order[p.pair(0, false)] == 0 ? 20 : 23);
+        }
+    }
+
     private static void twelveDevices() {
         due.sentence("THE WISH: up to 12 things");
         RulePlate p = shared(12);
@@ -379,28 +411,34 @@ public final class WishSentencesTest {
         due.is("pair", p.pair(0, false), Tell.MISSING);
     }
 
-    /** The last of two devices has so many ends; the first is whole. */
     private static void notTwoEnds() {
         due.sentence("(DEVICES that have no GATE or not two ENDS go with none: 0");
         for (int ends = 0; ends < 3; ends++) {
-            RulePlate p = new RulePlate();
-            p.path(0, 1, square(0, 5), square(8, 5), 1);
-            p.path(0, 2, square(4, 3), square(4, 7), 1);
-            p.path(0, 1, square(24 - Math.min(1, ends), 15), square(24 + ends / 2, 15), 1);
-            p.path(0, 2, square(24, 13), square(24, 17), 1);
-            p.made(8, 2, 1, 2);
-            p.conducts(8, true);
-            p.conducts(2, true);
-            p.gates(2, 1, 8);
-            p.flat(0);
-            p.circuit();
-            Tell.wish(p, 0, 0);
-            due.is("devices", p.device(Tell.NONE, 0), 2);
-            due.is("first of " + ends + " ends", p.device(1, 2) != Tell.NONE == ends > 0);
-            due.is("second of " + ends + " ends", p.device(1, 3) != Tell.NONE == ends > 1);
-            due.is("same with " + ends, p.same(), ends == 2 ? 1 : 0);
-            due.is("tries with " + ends, p.tries(), ends == 2 ? 2 : 0);
+            lacking(0, ends);
+            lacking(1, ends);
         }
+    }
+
+    /** One of two devices has so many ends; the other is whole. */
+    private static void lacking(int which, int ends) {
+        RulePlate p = new RulePlate();
+        int y = which == 0 ? 15 : 5;
+        p.path(0, 1, square(0, y), square(8, y), 1);
+        p.path(0, 2, square(4, y - 2), square(4, y + 2), 1);
+        p.path(0, 1, square(24 - Math.min(1, ends), 20 - y), square(24 + ends / 2, 20 - y), 1);
+        p.path(0, 2, square(24, 18 - y), square(24, 22 - y), 1);
+        p.made(8, 2, 1, 2);
+        p.conducts(8, true);
+        p.conducts(2, true);
+        p.gates(2, 1, 8);
+        p.flat(0);
+        p.circuit();
+        Tell.wish(p, 0, 0);
+        due.is("devices", p.device(Tell.NONE, 0), 2);
+        due.is("first of " + ends + " ends", p.device(which, 2) != Tell.NONE == ends > 0);
+        due.is("second of " + ends + " ends", p.device(which, 3) != Tell.NONE == ends > 1);
+        due.is("same with " + ends, p.same(), ends == 2 ? 1 : 0);
+        due.is("tries with " + ends, p.tries(), ends == 2 ? 2 : 0);
     }
 
     private static void notAsMany() {
