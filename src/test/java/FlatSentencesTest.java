@@ -6,6 +6,7 @@ public final class FlatSentencesTest {
         boxesFallOff();
         pathsFallOff();
         putsFallOff();
+        wholePlatesPut();
         holes();
         holesOfPuts();
         turnedAndMirrored();
@@ -27,6 +28,7 @@ public final class FlatSentencesTest {
         madeOfNothing();
         piecesBeside();
         piecesNumbered();
+        piecesInOneRow();
         flatTold();
         goes();
         madeAsTold();
@@ -104,6 +106,30 @@ public final class FlatSentencesTest {
         p.flat(2);
         p.circuit();
         due.is("the text fell off, too", p.name(0, 0), Tell.NONE);
+    }
+
+    /** All squares of a cell, or those at one border, put in each way: what is left of them on the plate. */
+    private static void wholePlatesPut() {
+        due.sentence("What is beyond THE PLATE falls off.");
+        int[][] places = {{0, 0}, {63, 0}, {0, 63}, {63, 63}, {20, 40}};
+        for (int way = 0; way < 8; way++) {
+            for (int[] place : places) {
+                RulePlate p = new RulePlate();
+                p.box(0, 0, 0, size(64, 64), false);
+                p.box(0, 1, 0, size(1, 64), false);
+                p.put(1, 0, square(place[0], place[1]), way % 4, way >= 4);
+                p.flat(1);
+                // by the words, 0, 0 comes to -1 in x by these ways, and to -1 in y by those
+                boolean left = way == 1 || way == 2 || way == 4 || way == 5;
+                boolean above = way == 2 || way == 3 || way == 5 || way == 6;
+                int wide = left ? place[0] : 64 - place[0];
+                int high = above ? place[1] : 64 - place[1];
+                String what = "way " + way + " at " + place[0] + ", " + place[1];
+                due.is(what + ": the whole plate", p.area(0), wide * high);
+                boolean upright = way % 2 == 0;
+                due.is(what + ": its left border", p.area(1), upright ? Math.min(wide, 1) * high : wide * Math.min(high, 1));
+            }
+        }
     }
 
     private static void holes() {
@@ -672,6 +698,30 @@ public final class FlatSentencesTest {
         due.is("least square 50, 0", p.pieces(0, 1), 1);
         due.is("least square 62, 0", p.pieces(0, 2), 8 + 63 + 9);
         due.is("no more", p.pieces(0, 3), Tell.BEYOND);
+    }
+
+    /** In one row, from the first square to the last one. */
+    private static void piecesInOneRow() {
+        due.sentence("PIECES are numbered by their least SQUARES.");
+        for (int y : new int[] {0, 30, 63}) {
+            RulePlate p = new RulePlate();
+            int x = 0;
+            for (int i = 0; i < 10; i++) {
+                p.path(0, 0, square(x, y), square(x + i, y), 1);
+                x += i + 2;
+            }
+            p.rule(3, 0, 0, 99);
+            p.flat(0);
+            due.is("how many", p.pieces(0, Tell.NONE), 10);
+            due.is("run", p.run(), 10);
+            x = 0;
+            for (int i = 0; i < 10; i++) {
+                due.is("piece " + i, p.pieces(0, i), i + 1);
+                due.is("its least", p.fault(i, 1), square(x, y));
+                due.is("its greatest", p.fault(i, 2), square(x + i, y));
+                x += i + 2;
+            }
+        }
     }
 
     private static void flatTold() {
