@@ -4,8 +4,11 @@ import java.util.Random;
 
 /** Long runs of made-up calls, the same each time, answered by RulePlate and by PlainPlate alike. */
 public final class PlainCompareTest {
-    private static final int RUNS = 400;
-    private static final int CALLS = 500;
+    private static final int RUNS = 500;
+    private static final int STYLES = 5;
+    private static final int CALLS = 512;
+    /** What one step calls at most: nothing is promised of an object behind its last call. */
+    private static final int STEP = 80;
 
     private final Random random;
     private final int style;
@@ -16,7 +19,7 @@ public final class PlainCompareTest {
 
     private PlainCompareTest(int seed) {
         random = new Random(seed);
-        style = seed % 4;
+        style = seed % STYLES;
     }
 
     public static void main(String[] args) {
@@ -39,12 +42,14 @@ public final class PlainCompareTest {
     }
 
     private void play() {
-        if (style >= 2) {
+        if (style == 4) {
+            wireMany();
+        } else if (style >= 2) {
             wire();
         }
-        for (int i = calls.size(); i < CALLS && wrong == 0; i++) {
+        while (calls.size() + STEP <= CALLS && wrong == 0) {
             int what = random.nextInt(100);
-            if (i < 30 || what < 12) {
+            if (calls.size() < 30 || what < 12) {
                 draw();
             } else if (what < 20) {
                 tell();
@@ -82,18 +87,66 @@ public final class PlainCompareTest {
             same("text(0, " + named + ", " + first + ", " + name + ")",
                 plate.text(0, named, first, name), plain.text(0, named, first, name));
         }
-        same("made(8, 2, 1, 2)", plate.made(8, 2, 1, 2), plain.made(8, 2, 1, 2));
-        same("conducts(8, true)", plate.conducts(8, true), plain.conducts(8, true));
-        same("conducts(2, true)", plate.conducts(2, true), plain.conducts(2, true));
-        same("gates(2, 1, 8)", plate.gates(2, 1, 8), plain.gates(2, 1, 8));
-        same("flat(0)", plate.flat(0), plain.flat(0));
-        same("circuit()", plate.circuit(), plain.circuit());
+        connect(0);
         for (int net = 0; net < 12; net++) {
             same("name(" + net + ", 0)", plate.name(net, 0), plain.name(net, 0));
             same("name(" + net + ", 1)", plate.name(net, 1), plain.name(net, 1));
         }
         wishAsFound();
         wishAsFound();
+    }
+
+    /**
+     * One crossing with texts on it comes many times, turned and so far apart that its wires are joined
+     * or are not; here and there a joint ties a column's wire to a row's.
+     */
+    private void wireMany() {
+        int thick = 1 + random.nextInt(3);
+        same("path(0, 1, 128, 132, " + thick + ")", plate.path(0, 1, 128, 132, thick), plain.path(0, 1, 128, 132, thick));
+        same("path(0, 2, 2, 258, 1)", plate.path(0, 2, 2, 258, 1), plain.path(0, 2, 2, 258, 1));
+        for (int i = 0; i < 6; i++) {
+            int square = random.nextBoolean() ? 128 + random.nextInt(5) : 2 + 64 * random.nextInt(5);
+            int layer = random.nextBoolean() ? 2 : 8;
+            same("text(0, " + layer + ", " + square + ", " + (i + 1) + ")",
+                plate.text(0, layer, square, i + 1), plain.text(0, layer, square, i + 1));
+        }
+        if (random.nextInt(3) == 0) {
+            int square = 64 * random.nextInt(5) + 2;
+            same("box(0, 3, " + square + ", 101, false)",
+                plate.box(0, 3, square, 101, false), plain.box(0, 3, square, 101, false));
+            same("made(9, 3, 2, 1)", plate.made(9, 3, 2, 1), plain.made(9, 3, 2, 1));
+            same("conducts(9, true)", plate.conducts(9, true), plain.conducts(9, true));
+            same("joint(9, 3, 2)", plate.joint(9, 3, 2), plain.joint(9, 3, 2));
+            same("joint(8, 9, 9)", plate.joint(8, 9, 9), plain.joint(8, 9, 9));
+        }
+        int turned = random.nextInt(4);
+        boolean mirrored = random.nextBoolean();
+        same("put(1, 0, 650, " + turned + ", " + mirrored + ")",
+            plate.put(1, 0, 650, turned, mirrored), plain.put(1, 0, 650, turned, mirrored));
+        int across = 200 * (1 + random.nextInt(4)) + 100 + 4 + random.nextInt(4);
+        int down = 200 * (1 + random.nextInt(4)) + 100 + 4 + random.nextInt(4);
+        same("times(1, 0, " + across + ", " + down + ")", plate.times(1, 0, across, down), plain.times(1, 0, across, down));
+        int far = 300 + random.nextInt(40);
+        same("put(2, 1, 0, 0, false)", plate.put(2, 1, 0, 0, false), plain.put(2, 1, 0, 0, false));
+        same("put(2, 1, " + far + ", 1, true)", plate.put(2, 1, far, 1, true), plain.put(2, 1, far, 1, true));
+        connect(random.nextInt(4) > 0 ? 1 : 2);
+        for (int i = 0; i < 8; i++) {
+            int net = random.nextInt(20);
+            int number = random.nextInt(4);
+            same("name(" + net + ", " + number + ")", plate.name(net, number), plain.name(net, number));
+        }
+        wishAsFound();
+        wishAsFound();
+    }
+
+    /** Layer 2 is of gates over layer 1, what is left of that conducts, and one cell is drawn. */
+    private void connect(int cell) {
+        same("made(8, 2, 1, 2)", plate.made(8, 2, 1, 2), plain.made(8, 2, 1, 2));
+        same("conducts(8, true)", plate.conducts(8, true), plain.conducts(8, true));
+        same("conducts(2, true)", plate.conducts(2, true), plain.conducts(2, true));
+        same("gates(2, 1, 8)", plate.gates(2, 1, 8), plain.gates(2, 1, 8));
+        same("flat(" + cell + ")", plate.flat(cell), plain.flat(cell));
+        same("circuit()", plate.circuit(), plain.circuit());
     }
 
     private void same(String call, int got, int want) {
@@ -126,7 +179,7 @@ public final class PlainCompareTest {
         return random.nextInt(10) < 7 ? upTo(4) : upTo(16);
     }
 
-    /** But in style 1 things are drawn in a corner, so that much meets. */
+    /** Except in style 1 things are drawn in a corner, so that much meets. */
     private int square() {
         if (style != 1 && random.nextInt(20) > 0) {
             return style == 0 ? 64 * upTo(12) + upTo(12) : 64 * upTo(24) + upTo(24);
@@ -279,14 +332,13 @@ public final class PlainCompareTest {
             boolean swap = random.nextBoolean();
             int told = 576 * nets[0] + 24 * nets[swap ? 2 : 1] + nets[swap ? 1 : 2];
             int size = random.nextInt(12) == 0 ? upTo(4097) : random.nextBoolean() ? 0 : plain.device(device, 0);
-            if (size != 0) {
-                plate.device(device, 0);
-            }
+            same("device(" + device + ", 0)", plate.device(device, 0), plain.device(device, 0));
             same("wish(" + told + ", " + size + ")", plate.wish(told, size), plain.wish(told, size));
         }
         same("same()", plate.same(), plain.same());
         same("tries()", plate.tries(), plain.tries());
-        for (int i = 0; i < 6; i++) {
+        for (int k = 0; k < 6; k++) {
+            int i = random.nextInt(Math.max(6, 2 * many));
             boolean net = random.nextBoolean();
             same("pair(" + i + ", " + net + ")", plate.pair(i, net), plain.pair(i, net));
         }
